@@ -103,7 +103,7 @@ public final class SelfishWays {
             case 2: return traffic.tolls;
             case 3: return traffic.socialNow();
             case 4: return traffic.potentialNow();
-            case 5: return traffic.firstMover(NONE) == NONE ? 1 : 0;
+            case 5: return traffic.restsNow() ? 1 : 0;
             case 6: return traffic.setsInAll();
             default: return traffic.greatestLoad();
         }
@@ -372,10 +372,7 @@ public final class SelfishWays {
         if (lanes.size >= LANES_MOST) {
             return FULL;
         }
-        lanes.a[lanes.size] = a;
-        lanes.b[lanes.size] = b;
-        lanes.size++;
-        lanes.known = false;
+        lanes.add(a, b);
         return lanes.size - 1;
     }
 
@@ -439,6 +436,7 @@ public final class SelfishWays {
         if (lanes.size == 0) {
             return STATE;
         }
+        lanes.partAll();
         return (int) lanes.thousandths(kind);
     }
 
@@ -449,6 +447,7 @@ public final class SelfishWays {
         if (lanes.size == 0) {
             return STATE;
         }
+        lanes.partAll();
         long wise = lanes.thousandths(WISE);
         // A stream of one over five lanes costs 200 thousandths at least: this is for rule 7 alone.
         if (wise <= 0) {
@@ -845,8 +844,9 @@ public final class SelfishWays {
                 return false;
             }
             size++;
+            // On its first way, so that its best way is the first one of the least pay.
             burden(one, 1);
-            moveTo(one, firstCheapestOf(one));
+            moveTo(one, bestWayOf(one));
             return true;
         }
 
@@ -882,10 +882,10 @@ public final class SelfishWays {
             return sum;
         }
 
-        private int firstCheapestOf(Player one) {
-            int found = 0;
-            int least = payBy(one, 0);
-            for (int way = 1; way < one.ways; way++) {
+        int bestWayOf(Player one) {
+            int found = one.taken;
+            int least = payBy(one, one.taken);
+            for (int way = 0; way < one.ways; way++) {
                 int sum = payBy(one, way);
                 if (sum < least) {
                     least = sum;
@@ -895,27 +895,26 @@ public final class SelfishWays {
             return found;
         }
 
-        int bestWayOf(Player one) {
-            int cheapest = firstCheapestOf(one);
-            return payBy(one, cheapest) < payBy(one, one.taken) ? cheapest : one.taken;
+        boolean restsNow() {
+            for (int player = 0; player < size; player++) {
+                if (bestWayOf(players[player]) != players[player].taken) {
+                    return false;
+                }
+            }
+            return true;
         }
 
-        /** The least player with a way of lesser pay, but for the one that stays (NONE: all may move). */
-        int firstMover(int staying) {
+        /** A turn of all but the one that stays (NONE: of all): who moved, NONE if nobody would. */
+        int moveFirst(int staying) {
             for (int player = 0; player < size; player++) {
-                if (player != staying && bestWayOf(players[player]) != players[player].taken) {
+                Player one = players[player];
+                int best = player == staying ? one.taken : bestWayOf(one);
+                if (best != one.taken) {
+                    moveTo(one, best);
                     return player;
                 }
             }
             return NONE;
-        }
-
-        int moveFirst(int staying) {
-            int mover = firstMover(staying);
-            if (mover != NONE) {
-                moveTo(players[mover], bestWayOf(players[mover]));
-            }
-            return mover;
         }
 
         /** The player takes the way and stays, the others take turns till none of them would: its pay. */
@@ -1048,7 +1047,7 @@ public final class SelfishWays {
             players = traffic.size;
             int stride = 1;
             for (int player = players - 1; player >= 0; player--) {
-                ways[player] = Math.max(1, traffic.players[player].ways);
+                ways[player] = traffic.players[player].ways;
                 strides[player] = stride;
                 stride *= ways[player];
             }
@@ -1098,8 +1097,10 @@ public final class SelfishWays {
 
         private boolean isRest(int number) {
             for (int player = 0; player < players; player++) {
+                int stride = strides[player];
+                int first = number - wayIn(number, player) * stride;
                 for (int way = 0; way < ways[player]; way++) {
-                    if (potentials[behindChange(number, player, way)] < potentials[number]) {
+                    if (potentials[first + way * stride] < potentials[number]) {
                         return false;
                     }
                 }
@@ -1108,12 +1109,9 @@ public final class SelfishWays {
         }
 
         int wayIn(int number, int player) {
-            int stride = Math.max(1, strides[player]);
-            return number / stride % Math.max(1, ways[player]);
-        }
-
-        private int behindChange(int number, int player, int way) {
-            return number + (way - wayIn(number, player)) * strides[player];
+            int stride = strides[player];
+            int all = ways[player];
+            return stride > 0 && all > 0 ? number / stride % all : 0;
         }
 
         /**
@@ -1141,8 +1139,10 @@ public final class SelfishWays {
 
         private void offerChanges(int number, int step) {
             for (int player = 0; player < players; player++) {
+                int stride = strides[player];
+                int first = number - wayIn(number, player) * stride;
                 for (int way = 0; way < ways[player]; way++) {
-                    int other = behindChange(number, player, way);
+                    int other = first + way * stride;
                     if (potentials[other] < potentials[number]) {
                         spread.offer(other, step);
                     }
@@ -1210,6 +1210,8 @@ public final class SelfishWays {
     private static final class Lanes {
         final int[] a = new int[LANES_MOST];
         final int[] b = new int[LANES_MOST];
+        // How much more a lane takes for a level higher by one: 1/B, in quarters.
+        final int[] weights = new int[LANES_MOST];
         int size;
         int amountInAll = 12;
         int tenthsLed = 5;
@@ -1225,10 +1227,19 @@ public final class SelfishWays {
         long openWeight;
         long weighedLevel;
 
+        void add(int laneA, int laneB) {
+            a[size] = laneA;
+            b[size] = laneB;
+            weights[size] = laneB == 1 ? 4 : laneB == 2 ? 2 : 1;
+            size++;
+            known = false;
+        }
+
         void partAll() {
             if (known || size == 0) {
                 return;
             }
+            layGround();
             partEven();
             partWise();
             partLeaders();
@@ -1236,13 +1247,13 @@ public final class SelfishWays {
             known = true;
         }
 
-        // A lane of B takes, for a level higher by one, 1/B more: these are quarters.
-        private static long weight(int b) {
-            return b == 1 ? 4 : b == 2 ? 2 : 1;
+        private void layGround() {
+            for (int lane = 0; lane < size; lane++) {
+                ground[lane] = a[lane];
+            }
         }
 
         private void partEven() {
-            layGround();
             pour(amounts[EVEN], amountInAll, 4);
             parts[EVEN] = 4 * openWeight;
             evenLevel = weighedLevel;
@@ -1252,15 +1263,8 @@ public final class SelfishWays {
         // An amount more costs all together A and 2 B times X: wise is what is even by these, and
         // with twice the B a lane takes eighths where it took quarters.
         private void partWise() {
-            layGround();
             pour(amounts[WISE], amountInAll, 8);
             parts[WISE] = 8 * openWeight;
-        }
-
-        private void layGround() {
-            for (int lane = 0; lane < size; lane++) {
-                ground[lane] = a[lane];
-            }
         }
 
         /**
@@ -1280,7 +1284,7 @@ public final class SelfishWays {
             }
             for (int lane = 0; lane < size; lane++) {
                 long depth = weighedLevel - ground[lane] * openWeight;
-                row[lane] = open[lane] ? weight(b[lane]) * depth : 0;
+                row[lane] = open[lane] ? weights[lane] * depth : 0;
             }
         }
 
@@ -1289,8 +1293,8 @@ public final class SelfishWays {
             weighedLevel = scaledAmount;
             for (int lane = 0; lane < size; lane++) {
                 if (open[lane]) {
-                    openWeight += weight(b[lane]);
-                    weighedLevel += weight(b[lane]) * ground[lane];
+                    openWeight += weights[lane];
+                    weighedLevel += weights[lane] * ground[lane];
                 }
             }
         }
@@ -1347,7 +1351,6 @@ public final class SelfishWays {
         }
 
         long thousandths(int kind) {
-            partAll();
             long some = parts[kind];
             long sum = 0;
             for (int lane = 0; lane < size; lane++) {

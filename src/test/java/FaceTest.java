@@ -1,0 +1,103 @@
+import java.io.IOException;
+import java.lang.reflect.Field;
+import java.lang.reflect.Method;
+import java.lang.reflect.Modifier;
+import java.nio.file.Files;
+import java.nio.file.Path;
+import java.util.Arrays;
+import java.util.Set;
+import java.util.TreeSet;
+import java.util.regex.Pattern;
+
+/** The public face is the document's, and the file keeps to those rules of LANGUAGE.md that can be seen in it. */
+public final class FaceTest {
+    private static final Path SOURCE = Path.of("src/main/java/SelfishWays.java");
+    // Each method with how many ints it takes.
+    private static final String[] METHODS = {"letter1", "blank0", "fault0", "net0", "about1", "road2",
+        "put3", "mode1", "player2", "drop0", "who2", "way3", "pay2", "set2", "turn0", "run1", "rests1",
+        "rest2", "go1", "best0", "price1", "reach1", "lead2", "leads1", "follow1", "lane2", "clear0",
+        "stream1", "share1", "flow3", "level1", "total1", "worse1", "count1", "digest0"};
+    private static final String[] CONSTANTS = {"NONE=-1", "UNKNOWN=-101", "OUTSIDE=-102", "STATE=-103",
+        "FULL=-104"};
+    private static final String[] NEVER = {"\\bthrow\\b", "\\btry\\b", "\\bcatch\\b", "\\bsynchronized\\b",
+        "\\bassert\\b", "->", "::", "\\bpackage\\b", "Exact\\b", "\\bRandom\\b", "\\bSystem\\.(?!arraycopy)",
+        "\\bstatic \\{", "\\bprotected\\b", "\\bfloat\\b", "\\bdouble\\b"};
+
+    public static void main(String[] args) throws ReflectiveOperationException, IOException {
+        Check check = new Check();
+        face(check);
+        classesInside(check);
+        words(check);
+        check.end();
+    }
+
+    private static void face(Check check) throws ReflectiveOperationException {
+        Class<?> face = SelfishWays.class;
+        check.holds("the class is public and final",
+                Modifier.isPublic(face.getModifiers()) && Modifier.isFinal(face.getModifiers()));
+        check.holds("one constructor, public, of nothing", face.getDeclaredConstructors().length == 1
+                && face.getConstructors().length == 1
+                && face.getConstructors()[0].getParameterCount() == 0);
+        Set<String> found = new TreeSet<>();
+        Set<String> names = new TreeSet<>();
+        for (Method m : face.getDeclaredMethods()) {
+            if (Modifier.isPublic(m.getModifiers())) {
+                found.add(m.getName() + m.getParameterCount());
+                names.add(m.getName());
+                check.holds(m + " answers as told",
+                        m.getReturnType() == (m.getName().equals("digest") ? long.class : int.class));
+                check.holds(m + " takes ints",
+                        Arrays.stream(m.getParameterTypes()).allMatch(t -> t == int.class));
+                check.holds(m + " is an object's", !Modifier.isStatic(m.getModifiers()));
+            }
+        }
+        check.holds("the methods are " + found, found.equals(new TreeSet<>(Arrays.asList(METHODS))));
+        for (Method m : face.getDeclaredMethods()) {
+            check.holds(m + " is private with a name of its own", Modifier.isPublic(m.getModifiers())
+                    || Modifier.isPrivate(m.getModifiers()) && !names.contains(m.getName()));
+        }
+        Set<String> constants = new TreeSet<>();
+        for (Field f : face.getDeclaredFields()) {
+            if (Modifier.isPublic(f.getModifiers())) {
+                constants.add(f.getName() + "=" + f.get(null));
+            } else {
+                check.holds(f + " is private", Modifier.isPrivate(f.getModifiers()));
+            }
+        }
+        check.holds("the constants are " + constants,
+                constants.equals(new TreeSet<>(Arrays.asList(CONSTANTS))));
+    }
+
+    private static void classesInside(Check check) {
+        Set<String> names = new TreeSet<>();
+        for (Method m : SelfishWays.class.getMethods()) {
+            names.add(m.getName());
+        }
+        Class<?>[] inside = SelfishWays.class.getDeclaredClasses();
+        check.holds("not more than twelve classes", inside.length < 12);
+        for (Class<?> c : inside) {
+            check.holds(c + " is static and not public",
+                    Modifier.isStatic(c.getModifiers()) && !Modifier.isPublic(c.getModifiers()));
+            long fields = Arrays.stream(c.getDeclaredFields())
+                    .filter(f -> !Modifier.isStatic(f.getModifiers())).count();
+            check.holds(c + " has not more than twenty fields", fields <= 20);
+            for (Method m : c.getDeclaredMethods()) {
+                check.holds(m + " takes at most seven", m.getParameterCount() <= 7);
+                check.holds(m + " has a name of its own", !names.contains(m.getName()));
+            }
+            for (Field f : c.getDeclaredFields()) {
+                check.holds(f + " is final, if it is static",
+                        !Modifier.isStatic(f.getModifiers()) || Modifier.isFinal(f.getModifiers()));
+            }
+        }
+    }
+
+    private static void words(Check check) throws IOException {
+        String code = Files.readString(SOURCE)
+                .replaceAll("(?s)/\\*.*?\\*/", "").replaceAll("//[^\n]*", "");
+        for (String never : NEVER) {
+            check.holds("nowhere: " + never, !Pattern.compile(never).matcher(code).find());
+        }
+        check.holds("signs of 1 to 127 alone", code.chars().allMatch(c -> c >= 1 && c <= 127));
+    }
+}
