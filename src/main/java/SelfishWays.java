@@ -662,7 +662,7 @@ public final class SelfishWays {
         final Net draft = new Net();
         int phase;
 
-        /** The place of the first letter that no net has there; the page's size, if there is none. */
+        /** The place of the first letter that no net has there; the size, if there is none. */
         int readIntoDraft() {
             phase = AT_NODES;
             draft.nodes = 0;
@@ -759,7 +759,7 @@ public final class SelfishWays {
         final int[][] roads = new int[WAYS_MOST][WAY_ROADS_MOST];
         final int[] path = new int[WAY_ROADS_MOST];
 
-        /** Finds all ways; one more than are allowed is counted, but not kept, and ends the search. */
+        /** Finds all ways; one more than are allowed is counted, not kept, and ends the search. */
         void findWays(Net net) {
             ways = 0;
             taken = 0;
@@ -917,7 +917,7 @@ public final class SelfishWays {
             return NONE;
         }
 
-        /** The player takes the way and stays, the others take turns till none of them would: its pay. */
+        /** The player takes the way and stays, the others take turns till none would: its pay. */
         int settleBehind(int player, int way) {
             moveTo(players[player], way);
             for (int turns = 0; turns < SETTLING_MOST; turns++) {

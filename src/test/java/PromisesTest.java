@@ -406,6 +406,11 @@ public final class PromisesTest {
         due("pay(0, 0) on another net", x.pay(0, 0), 9);
         due("pay(0, 1) on another net", x.pay(0, 1), 4);
         due("pay(1, 0) on another net", x.pay(1, 0), 2);
+        type(x, "3;1>2:0+1;0>2:0+1;0>1:0+1");
+        x.net();
+        x.player(0, 2);
+        due("pay(0, 0) on a third net", x.pay(0, 0), 1);
+        due("pay(0, 1) on a third net", x.pay(0, 1), 2);
     }
 
     private void whoTheyAre() {
@@ -810,6 +815,10 @@ public final class PromisesTest {
         dueFlow(x, 3, 1, 0, 1);
         due("level(0)", x.level(0), 3);
         due("worse(0): even is wise", x.worse(0), 10000);
+        x.stream(2);
+        dueFlow(x, 3, 0, 1, 1);
+        dueFlow(x, 3, 1, 0, 1);
+        dueFlow(x, 2, 0, 2, 1);
         due("flow(0, 2, 0)", x.flow(0, 2, 0), UNKNOWN);
         due("flow(9, -1, 9)", x.flow(9, -1, 9), UNKNOWN);
         due("flow(4, 0, 0)", x.flow(4, 0, 0), OUTSIDE);
@@ -904,6 +913,7 @@ public final class PromisesTest {
         due("level(0) of one lane", x.level(0), 30);
         dueDigest("with one lane", x, "");
         x.stream(1);
+        due("level(0) of 1", x.level(0), 8);
         x.lane(0, 1);
         due("level(0) with a free one", x.level(0), 1);
         x.stream(40);
