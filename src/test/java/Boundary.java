@@ -25,6 +25,18 @@ abstract class Boundary {
         sentence = "promise " + number + ", \"" + words + "\": ";
     }
 
+    /** Runs the tests; where the class throws, that is told with the words that it broke. */
+    final void hold(Runnable... tests) {
+        for (Runnable test : tests) {
+            try {
+                test.run();
+            } catch (RuntimeException | StackOverflowError e) {
+                check.holds(sentence + "no call throws, but one threw " + e, false);
+            }
+        }
+        check.end();
+    }
+
     final void due(String call, long got, long want) {
         check.due(sentence + call, got, want);
     }
@@ -105,10 +117,6 @@ abstract class Boundary {
     final void dueFlow(SelfishWays x, int kind, int lane, int above, int below) {
         due("flow(" + kind + ", " + lane + ", 0)", x.flow(kind, lane, 0), above);
         due("flow(" + kind + ", " + lane + ", 1)", x.flow(kind, lane, 1), below);
-    }
-
-    final void end() {
-        check.end();
     }
 
     static void type(SelfishWays x, String text) {

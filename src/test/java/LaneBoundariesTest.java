@@ -2,36 +2,15 @@
 public final class LaneBoundariesTest extends Boundary {
     public static void main(String[] args) {
         LaneBoundariesTest test = new LaneBoundariesTest();
-        test.laneOutside();
-        test.laneFull();
-        test.laneCounts();
-        test.clearTellsHowMany();
-        test.clearLeaves();
-        test.streamLimits();
-        test.streamOutside();
-        test.shareLimits();
-        test.shareOutside();
-        test.flowUnknown();
-        test.flowOutside();
-        test.flowOfNothing();
-        test.flowInLowestTerms();
-        test.flowEvenAtTheEdge();
-        test.flowWiseAtTheEdge();
-        test.flowLeadersByEachShare();
-        test.flowLeadersInTheirOrder();
-        test.flowLedByNothingAndByAll();
-        test.flowLedAtTheEdge();
-        test.flowOfOneLane();
-        test.flowOfFive();
-        test.levelRefused();
-        test.levelOfLanesWithSome();
-        test.totalRefused();
-        test.totalRoundedDown();
-        test.totalLeastAndMost();
-        test.worseRefused();
-        test.worseRoundedDown();
-        test.lanesFollowChanges();
-        test.end();
+        test.hold(test::laneOutside, test::laneFull, test::laneCounts, test::clearTellsHowMany,
+                test::clearLeaves, test::streamLimits, test::streamOutside, test::shareLimits,
+                test::shareOutside, test::flowUnknown, test::flowOutside, test::flowOfNothing,
+                test::flowInLowestTerms, test::flowEvenAtTheEdge, test::flowWiseAtTheEdge,
+                test::flowLeadersByEachShare, test::flowLeadersInTheirOrder,
+                test::flowLedByNothingAndByAll, test::flowLedAtTheEdge, test::flowOfOneLane,
+                test::flowOfFive, test::levelRefused, test::levelOfLanesWithSome,
+                test::totalRefused, test::totalRoundedDown, test::totalLeastAndMost,
+                test::worseRefused, test::worseRoundedDown, test::lanesFollowChanges);
     }
 
     /** A lane that costs X, and one that costs 6 and X. */
@@ -123,7 +102,7 @@ public final class LaneBoundariesTest extends Boundary {
     // ---- promises 29 and 30
 
     private void streamLimits() {
-        promise(29, "There is another STREAM: which it was (1 to 40; 12 at first)");
+        promise(29, "There is another STREAM: which it was ... D (1 to 40; 12 at first)");
         SelfishWays x = new SelfishWays();
         int was = 12;
         for (int d = 40; d >= 1; d--) {
@@ -149,7 +128,7 @@ public final class LaneBoundariesTest extends Boundary {
     }
 
     private void shareLimits() {
-        promise(30, "There is another SHARE: which it was (0 to 10; 5 at first)");
+        promise(30, "There is another SHARE: which it was ... S (0 to 10; 5 at first)");
         SelfishWays x = new SelfishWays();
         int was = 5;
         for (int s = 10; s >= 0; s--) {
@@ -301,7 +280,7 @@ public final class LaneBoundariesTest extends Boundary {
     }
 
     private void flowLedByNothingAndByAll() {
-        promise(31, "2 LED (all of it) (S 0 to 10)");
+        promise(31, "2 LED (all of it) ... S (0 to 10; 5 at first)");
         SelfishWays x = fullLanes();
         for (int lane = 0; lane < 5; lane++) {
             x.share(0);
@@ -330,7 +309,7 @@ public final class LaneBoundariesTest extends Boundary {
     }
 
     private void flowOfOneLane() {
-        promise(31, "A STREAM D parts over them to amounts, D together (one LANE)");
+        promise(31, "parts over them to amounts, not below 0, D together");
         for (int d : new int[] {1, 39, 40}) {
             SelfishWays x = lanes(d, 10, 20, 4);
             for (int kind = 0; kind <= 3; kind++) {
@@ -345,7 +324,7 @@ public final class LaneBoundariesTest extends Boundary {
     }
 
     private void flowOfFive() {
-        promise(31, "A STREAM D parts over them to amounts, D together (five LANES)");
+        promise(31, "parts over them to amounts, not below 0, D together ... (five at most)");
         SelfishWays x = lanes(1, 10, 20, 4, 20, 4, 20, 4, 20, 4, 20, 4);
         for (int lane = 0; lane < 5; lane++) {
             for (int kind = 0; kind <= 3; kind++) {
@@ -453,7 +432,7 @@ public final class LaneBoundariesTest extends Boundary {
     }
 
     private void worseRoundedDown() {
-        promise(34, "10000 times total() of a kind, divided by total() of 1, rounded down");
+        promise(34, "10000 times total() of a kind (0 to 2), divided by total() of 1, rounded down");
         dueRow("worse(): 10596.02.. and 10066.2..", two(10, 3)::worse, 10596, 10000, 10066);
         dueRow("worse(): 10869.5.. and 10217.3..", two(5, 1)::worse, 10869, 10000, 10217);
         dueRow("worse(): nothing to round", lanes(5, 0, 0, 4, 20, 1)::worse, 12500, 10000, 12500);

@@ -6,28 +6,13 @@ public final class NetBoundariesTest extends Boundary {
 
     public static void main(String[] args) {
         NetBoundariesTest test = new NetBoundariesTest();
-        test.aboutOutside();
-        test.aboutWithoutNet();
-        test.aboutNobody();
-        test.aboutAtTheMost();
-        test.aboutNothingToPay();
-        test.aboutResting();
-        test.aboutSocialAndMode();
-        test.aboutGreatestLoad();
-        test.roadUnknown();
-        test.roadOutside();
-        test.roadWithNobody();
-        test.roadByLoad();
-        test.putLimits();
-        test.putOutside();
-        test.putUnknown();
-        test.putChangesOneNumber();
-        test.putAtEachLimitPays();
-        test.modeLimits();
-        test.modeOutside();
-        test.modeWithoutNet();
-        test.modeTurnsTollsOnAndOff();
-        test.end();
+        test.hold(test::aboutOutside, test::aboutWithoutNet, test::aboutNobody,
+                test::aboutAtTheMost, test::aboutNothingToPay, test::aboutResting,
+                test::aboutSocialAndMode, test::aboutGreatestLoad, test::roadUnknown,
+                test::roadOutside, test::roadTellsEach, test::roadWithNobody, test::roadByLoad, test::putLimits,
+                test::putOutside, test::putUnknown, test::putChangesOneNumber,
+                test::putAtEachLimitPays, test::modeLimits, test::modeOutside,
+                test::modeWithoutNet, test::modeTurnsTollsOnAndOff);
     }
 
     // ---- promise 6
@@ -99,7 +84,7 @@ public final class NetBoundariesTest extends Boundary {
     }
 
     private void aboutResting() {
-        promise(6, "5 whether it RESTS (1, 0): nobody has a WAY of lesser PAY");
+        promise(6, "5 whether it RESTS (1, 0) ... It RESTS, if nobody has a WAY of lesser PAY");
         due("about(5): 4 against 4", four(0, 0, 0, 0).about(5), 1);
         due("about(5): as dear, from the other side", four(1, 0, 0, 0).about(5), 1);
         due("about(5): 4 against 3, two would", four(1, 1, 0, 0).about(5), 0);
@@ -175,6 +160,17 @@ public final class NetBoundariesTest extends Boundary {
         }
     }
 
+    private void roadTellsEach() {
+        promise(7, "what = 0 FROM, 1 TO, 2 A, 3 B, 4 T, 5 LOAD, 6 what a PLAYER pays there");
+        SelfishWays x = on("6;5>0:20+9;0>5:0+0;2>4:7+3", 1, 2, 4);
+        x.put(2, 2, 40);
+        x.mode(1);
+        dueRow("road(0, )", what -> x.road(0, what), 5, 0, 20, 9, 0, 0, NONE, 29);
+        dueRow("road(1, )", what -> x.road(1, what), 0, 5, 0, 0, 0, 0, NONE, 0);
+        dueRow("road(2, )", what -> x.road(2, what), 2, 4, 7, 3, 40, 1, 50, 53);
+        tellsOnly("road(2, 7)", Boundary::furnished, y -> y.road(2, 7), 20);
+    }
+
     private void roadWithNobody() {
         promise(7, "6 what a PLAYER pays there (NONE: nobody is on it)");
         SelfishWays x = on(FREE);
@@ -191,7 +187,7 @@ public final class NetBoundariesTest extends Boundary {
     }
 
     private void roadByLoad() {
-        promise(7, "5 LOAD, 6 what a PLAYER pays there, 7 what a PLAYER would pay there, if one more were on it");
+        promise(7, "6 what a PLAYER pays there ... 7 what a PLAYER would pay there, if one more were on it");
         SelfishWays x = on(DEAREST);
         x.put(0, 2, 40);
         for (int k = 0; k <= 5; k++) {

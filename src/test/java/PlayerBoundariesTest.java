@@ -5,37 +5,15 @@ public final class PlayerBoundariesTest extends Boundary {
 
     public static void main(String[] args) {
         PlayerBoundariesTest test = new PlayerBoundariesTest();
-        test.playerWithoutNet();
-        test.playerUnknown();
-        test.playerFull();
-        test.playerWithoutWay();
-        test.playerWithTooManyWays();
-        test.playerTakesTheLeast();
-        test.playerAsTheOthersAre();
-        test.dropToNobody();
-        test.dropTakesItsLoad();
-        test.dropAndComeAgain();
-        test.whoUnknown();
-        test.whoOutside();
-        test.whoBestWay();
-        test.wayUnknown();
-        test.waySizes();
-        test.wayOrder();
-        test.wayNoNodeTwice();
-        test.payUnknown();
-        test.payItAlone();
-        test.setUnknown();
-        test.setTheSame();
-        test.setMovesOne();
-        test.turnWithoutNet();
-        test.turnAtRest();
-        test.turnOfTheLeast();
-        test.turnToTheBest();
-        test.runOutside();
-        test.runWithoutNet();
-        test.runSoMany();
-        test.runIsTurns();
-        test.end();
+        test.hold(test::playerWithoutNet, test::playerUnknown, test::playerFull,
+                test::playerWithoutWay, test::playerWithTooManyWays, test::playerTakesTheLeast,
+                test::playerAsTheOthersAre, test::dropToNobody, test::dropTakesItsLoad,
+                test::dropAndComeAgain, test::whoUnknown, test::whoOutside, test::whoBestWay,
+                test::wayUnknown, test::waySizes, test::wayOrder, test::wayNoNodeTwice,
+                test::payUnknown, test::payItAlone, test::setUnknown, test::setTheSame,
+                test::setMovesOne, test::turnWithoutNet, test::turnAtRest, test::turnOfTheLeast,
+                test::turnToTheBest, test::runOutside, test::runWithoutNet, test::runSoMany,
+                test::runIsTurns);
     }
 
     // ---- promise 10
@@ -213,6 +191,15 @@ public final class PlayerBoundariesTest extends Boundary {
         due("count(5)", x.count(5), 60);
         due("player(1, 3)", x.player(1, 3), 0);
         due("who(0, 2): other ways", x.who(0, 2), 2);
+        dueRow("pay(0, ) by other ways", way -> x.pay(0, way), 20, 5);
+        x.player(0, 3);
+        x.set(1, 2);
+        x.drop();
+        x.player(0, 2);
+        // The one ahead in its place had ways with other roads, road 2 among them.
+        dueSet("player(0, 2) behind one of other ways", x, 1, 1);
+        dueRow("pay(1, )", way -> x.pay(1, way), 20, 4 + 1);
+        dueRow("pay(0, )", way -> x.pay(0, way), 20, 1 + 4);
     }
 
     // ---- promise 12
@@ -239,7 +226,8 @@ public final class PlayerBoundariesTest extends Boundary {
     }
 
     private void whoBestWay() {
-        promise(12, "BEST WAY of a PLAYER: the one it takes, if none has a lesser PAY; else that of the least PAY, of several the first");
+        promise(12, "BEST WAY of a PLAYER: the one it takes, if none has a lesser PAY; "
+                + "else that of the least PAY, of several the first");
         SelfishWays x = on(THREE_ALIKE, 1, 0, 1);
         int[][] want = {{0, 1, 3, 0, 3, 1, 2}, {0, 1, 3, 1, 2, 1, 2}, {0, 1, 3, 2, 2, 2, 2}};
         for (int way = 0; way <= 2; way++) {
@@ -326,9 +314,16 @@ public final class PlayerBoundariesTest extends Boundary {
         due("who(2, 2)", x.who(2, 2), 2);
         dueWay(x, 2, 0, 4);
         dueWay(x, 2, 1, 3, 1);
-        SelfishWays loop = on("4;0>1:0+0;1>2:0+0;2>1:0+0;1>3:0+0", 1, 0, 3);
-        due("who(0, 2): no loop", loop.who(0, 2), 1);
+        // With six nodes a way may have five roads: enough for each of these rounds.
+        SelfishWays loop = on("6;0>1:0+0;1>2:0+0;2>1:0+0;1>3:0+0", 1, 0, 3);
+        due("who(0, 2): no round on the way", loop.who(0, 2), 1);
         dueWay(loop, 0, 0, 0, 3);
+        SelfishWays back = on("6;0>1:0+0;1>0:0+0;0>2:0+0", 1, 0, 2);
+        due("who(0, 2): no round over the first one", back.who(0, 2), 1);
+        dueWay(back, 0, 0, 2);
+        SelfishWays beyond = on("6;0>1:0+0;1>2:0+0;2>1:0+0", 1, 0, 1);
+        due("who(0, 2): no round over the last one", beyond.who(0, 2), 1);
+        dueWay(beyond, 0, 0, 0);
     }
 
     // ---- promise 14

@@ -7,37 +7,16 @@ public final class SetBoundariesTest extends Boundary {
 
     public static void main(String[] args) {
         SetBoundariesTest test = new SetBoundariesTest();
-        test.restsOutside();
-        test.allRefusedWithoutPlayers();
-        test.allRefusedAbove500();
-        test.allToldUpTo500();
-        test.restsOfOneSet();
-        test.restsAllAlike();
-        test.restsAsDearIsRest();
-        test.restsFollowChanges();
-        test.restsTellOnly();
-        test.restUnknown();
-        test.restOrder();
-        test.goUnknown();
-        test.goFirstAndLast();
-        test.bestIsTheFirst();
-        test.priceOutside();
-        test.priceInLowestTerms();
-        test.priceByNothing();
-        test.reachOutside();
-        test.reachAtRest();
-        test.reachAnyLesserPay();
-        test.reachFromTheSetAsItIs();
-        test.leadUnknown();
-        test.leadStays();
-        test.leadFromTheSetAsItIs();
-        test.leadTellsOnly();
-        test.leadsOfSeveralTheFirst();
-        test.leadsUnknown();
-        test.followEnds();
-        test.followUnknown();
-        test.leadingAbove500();
-        test.end();
+        test.hold(test::restsOutside, test::allRefusedWithoutPlayers, test::allRefusedAbove500,
+                test::allToldUpTo500, test::restsOfOneSet, test::restsAllAlike,
+                test::restsAsDearIsRest, test::restsFollowChanges, test::restsTellOnly,
+                test::restUnknown, test::restOrder, test::goUnknown, test::goFirstAndLast,
+                test::bestIsTheFirst, test::priceOutside, test::priceInLowestTerms,
+                test::priceByNothing, test::reachOutside, test::reachAtRest,
+                test::reachAnyLesserPay, test::reachFromTheSetAsItIs, test::leadUnknown,
+                test::leadStays, test::leadFromTheSetAsItIs, test::leadTellsOnly,
+                test::leadsOfSeveralTheFirst, test::leadsUnknown, test::followEnds,
+                test::followUnknown, test::leadingAbove500);
     }
 
     /** Five ways for three players, four for the last one: 500 sets. */
@@ -198,17 +177,23 @@ public final class SetBoundariesTest extends Boundary {
         promise(18, "0 how many REST SETS there are");
         SelfishWays x = four();
         due("rests(0)", x.rests(0), 5);
+        promise(8, "A ROAD gets another A");
         x.put(1, 0, 3);
         due("rests(0) behind put()", x.rests(0), 10);
+        due("rests(2) behind put()", x.rests(2), 12);
+        promise(9, "There is another MODE");
         x.mode(2);
         // By 1, 3, 5 against 3: one or two on the first road.
         due("rests(0) behind mode()", x.rests(0), 10);
         due("rests(2) behind mode()", x.rests(2), 10);
+        promise(11, "The last PLAYER is gone");
         x.drop();
         // One or two of three.
         due("rests(0) behind drop()", x.rests(0), 6);
+        promise(10, "A PLAYER comes");
         x.player(0, 1);
         due("rests(0) behind player()", x.rests(0), 10);
+        promise(5, "another one is gone, with all PLAYERS");
         type(x, FREE);
         x.net();
         come(x, 4, 0, 1);
@@ -323,6 +308,11 @@ public final class SetBoundariesTest extends Boundary {
         x.mode(2);
         x.put(0, 2, 40);
         due("best(), whatever MODE is", x.best(), 12);
+        x.put(1, 0, 20);
+        // With 0 to 4 on the first road SOCIAL is 80, 61, 44, 29, 16 now.
+        due("best() behind put(): the first of all", x.best(), 16);
+        dueSet("best() behind put()", x, 0, 0, 0, 0);
+        due("rests(5) behind put(): one alone", x.rests(5), 1);
     }
 
     // ---- promise 22
@@ -540,12 +530,12 @@ public final class SetBoundariesTest extends Boundary {
     }
 
     private void leadingAbove500() {
-        promise(24, "UNKNOWN: player, way (no STATE: as many SETS as there are)");
+        promise(24, "PAY of a PLAYER in the end, if it LEADS by a WAY");
         SelfishWays x = on(EIGHT_ALIKE, 3, 0, 1);
         dueRow("lead(0, ) of 512 sets", way -> x.lead(0, way), 1, 1, 1, 1, 1, 1, 1, 1);
-        promise(25, "UNKNOWN: player (no STATE: as many SETS as there are)");
+        promise(25, "The WAY by which that is least");
         due("leads(2) of 512 sets", x.leads(2), 0);
-        promise(26, "UNKNOWN: player (no STATE: as many SETS as there are)");
+        promise(26, "A PLAYER LEADS by that WAY");
         due("follow(2) of 512 sets", x.follow(2), 1);
         // The last one takes the first road, and the first player the least free one then.
         dueSet("follow(2) of 512 sets", x, 2, 1, 0);

@@ -5,22 +5,11 @@ import java.util.Arrays;
 public final class TellingBoundariesTest extends Boundary {
     public static void main(String[] args) {
         TellingBoundariesTest test = new TellingBoundariesTest();
-        test.countOutside();
-        test.countFromNothing();
-        test.countAtTheMost();
-        test.countNotWhatIsRefused();
-        test.countComings();
-        test.countTurns();
-        test.digestOfNothing();
-        test.digestOfLetters();
-        test.digestOfANet();
-        test.digestOfAPlayer();
-        test.digestOfTwoPlayers();
-        test.digestOfLanes();
-        test.digestOfManySets();
-        test.digestWraps();
-        test.digestTellsOnly();
-        test.end();
+        test.hold(test::countOutside, test::countFromNothing, test::countAtTheMost,
+                test::countNotWhatIsRefused, test::countComings, test::countTurns,
+                test::digestOfNothing, test::digestOfLetters, test::digestOfANet,
+                test::digestOfAPlayer, test::digestOfTwoPlayers, test::digestOfLanes,
+                test::digestOfManySets, test::digestWraps, test::digestTellsOnly);
     }
 
     // ---- promise 35
@@ -209,7 +198,8 @@ public final class TellingBoundariesTest extends Boundary {
     }
 
     private void digestOfLanes() {
-        promise(36, "of each LANE flow() by kinds 0 to 3, 0, then 1; with LANES level() for 0 and 1, total() for 0 to 2");
+        promise(36, "of each LANE flow() by kinds 0 to 3, 0, then 1; "
+                + "with LANES level() for 0 and 1, total() for 0 to 2");
         dueDigest("of one lane", lanes(12, 5, 6, 2),
                 12, 1, 12, 1, 12, 1, 6, 1, 30, 1, 360000, 360000, 360000, 0, 0, 1, 0, 0, 0, 0);
         dueDigest("of two lanes", lanes(10, 3, 0, 1, 6, 1),

@@ -5,33 +5,14 @@ public final class TextBoundariesTest extends Boundary {
 
     public static void main(String[] args) {
         TextBoundariesTest test = new TextBoundariesTest();
-        test.newHasNoNet();
-        test.newHasNoLanes();
-        test.newHasModeZero();
-        test.newHasAnEmptyPage();
-        test.objectsAreApart();
-        test.letterTellsHowMany();
-        test.letterOutside();
-        test.letterFull();
-        test.letterOutsideAheadOfFull();
-        test.letterOfLastCall();
-        test.blankTellsHowMany();
-        test.blankLeavesTheNet();
-        test.faultAtNodes();
-        test.faultAtRoads();
-        test.faultAtA();
-        test.faultAtB();
-        test.faultBehindTenRoads();
-        test.faultIsTheFirst();
-        test.faultTellsOnly();
-        test.netOfEachSize();
-        test.netWithEachAAndB();
-        test.netOnlyWhole();
-        test.netEmptiesThePage();
-        test.netTakesAway();
-        test.netLeaves();
-        test.netRefused();
-        test.end();
+        test.hold(test::newHasNoNet, test::newHasNoLanes, test::newHasModeZero,
+                test::newHasAnEmptyPage, test::objectsAreApart, test::letterTellsHowMany,
+                test::letterOutside, test::letterFull, test::letterOutsideAheadOfFull,
+                test::letterOfLastCall, test::blankTellsHowMany, test::blankLeavesTheNet,
+                test::faultAtNodes, test::faultAtRoads, test::faultAtA, test::faultAtB,
+                test::faultBehindTenRoads, test::faultIsTheFirst, test::faultTellsOnly,
+                test::netOfEachSize, test::netWithEachAAndB, test::netOnlyWhole,
+                test::netEmptiesThePage, test::netTakesAway, test::netLeaves, test::netRefused);
     }
 
     // ---- promise 1
@@ -197,7 +178,7 @@ public final class TextBoundariesTest extends Boundary {
     }
 
     private void faultAtNodes() {
-        promise(4, "the first letter of THE PAGE that no NET has there (2 to 6 NODES)");
+        promise(4, "the first letter of THE PAGE that no NET has there ... A NET has 2 to 6 NODES");
         due("fault() of nothing", page("").fault(), 0);
         dueNext("", "23456");
         for (int nodes = 2; nodes <= 6; nodes++) {
@@ -206,7 +187,7 @@ public final class TextBoundariesTest extends Boundary {
     }
 
     private void faultAtRoads() {
-        promise(4, "the first letter of THE PAGE that no NET has there (FROM a NODE TO another one)");
+        promise(4, "the first letter of THE PAGE that no NET has there ... each FROM a NODE TO another one");
         for (int nodes = 2; nodes <= 6; nodes++) {
             String numbers = DIGITS.substring(0, nodes);
             dueNext(nodes + ";", numbers);
@@ -223,7 +204,7 @@ public final class TextBoundariesTest extends Boundary {
     }
 
     private void faultAtA() {
-        promise(4, "the first letter of THE PAGE that no NET has there (A 0 to 20, without a 0 ahead)");
+        promise(4, "the first letter of THE PAGE that no NET has there ... A (without a 0 ahead) ... A (0 to 20)");
         dueNext("2;0>1:", DIGITS);
         dueNext("2;0>1:0", "+");
         dueNext("2;0>1:1", "+" + DIGITS);
@@ -237,7 +218,7 @@ public final class TextBoundariesTest extends Boundary {
     }
 
     private void faultAtB() {
-        promise(4, "the first letter of THE PAGE that no NET has there (B 0 to 9)");
+        promise(4, "the first letter of THE PAGE that no NET has there ... B (0 to 9)");
         dueNext("2;0>1:0+", DIGITS);
         dueNext("2;0>1:20+", DIGITS);
         for (int b = 0; b <= 9; b++) {
@@ -246,7 +227,7 @@ public final class TextBoundariesTest extends Boundary {
     }
 
     private void faultBehindTenRoads() {
-        promise(4, "the first letter of THE PAGE that no NET has there (one to ten ROADS)");
+        promise(4, "the first letter of THE PAGE that no NET has there ... one to ten ROADS");
         dueNext("2" + ";0>1:0+9".repeat(9), ";");
         dueNext("2" + ";0>1:0+9".repeat(10), "");
         dueNext(LONGEST_NET, "");
@@ -286,7 +267,7 @@ public final class TextBoundariesTest extends Boundary {
     // ---- promise 5
 
     private void netOfEachSize() {
-        promise(5, "THE PAGE is read as THE NET: how many ROADS (one to ten, 2 to 6 NODES)");
+        promise(5, "how many ROADS ... 2 to 6 NODES ... one to ten ROADS");
         for (int nodes = 2; nodes <= 6; nodes++) {
             for (int roads = 1; roads <= 10; roads++) {
                 int last = nodes - 1;
@@ -305,7 +286,7 @@ public final class TextBoundariesTest extends Boundary {
     }
 
     private void netWithEachAAndB() {
-        promise(5, "THE PAGE is read as THE NET (A 0 to 20, B 0 to 9, T 0 when the NET is read)");
+        promise(5, "THE PAGE is read as THE NET ... A (0 to 20) and B (0 to 9) ... 0 when the NET is read");
         for (int a = 0; a <= 20; a++) {
             int b = a % 10;
             SelfishWays x = on("6;3>5:" + (20 - a) + "+" + (9 - b) + ";5>0:" + a + "+" + b);
