@@ -1,12 +1,14 @@
 import java.util.ArrayList;
+import java.util.HashSet;
 import java.util.List;
+import java.util.Set;
 import java.util.function.IntUnaryOperator;
 import java.util.function.Supplier;
 import java.util.function.ToLongFunction;
 
 /**
- * What the tests of the boundaries share. Each test names the promise and the words of it that it
- * holds; what is not as due is told with these.
+ * What the tests of the boundaries share. Each test names the promise and the words of the document
+ * that it holds; what is not as due is told with these.
  */
 abstract class Boundary {
     static final int NONE = -1, UNKNOWN = -101, OUTSIDE = -102, STATE = -103, FULL = -104;
@@ -18,21 +20,31 @@ abstract class Boundary {
     static final String BRAESS = "4;0>1:0+4;1>3:20+0;0>2:20+0;2>3:0+4;1>2:1+0";
 
     private final Check check = new Check();
+    private final Document document = new Document();
+    private final Set<Integer> named = new HashSet<>();
     private String sentence = "";
 
     /** What is asked for from here on holds these words of this promise. */
     final void promise(int number, String words) {
         sentence = "promise " + number + ", \"" + words + "\": ";
+        named.add(number);
+        check.holds(sentence + "the document says so", document.says(number, words));
     }
 
-    /** Runs the tests; where the class throws, that is told with the words that it broke. */
-    final void hold(Runnable... tests) {
+    /**
+     * Runs the tests, which name at least the promises from the first to the last one; where the
+     * class throws, that is told with the words that it broke.
+     */
+    final void hold(int first, int last, Runnable... tests) {
         for (Runnable test : tests) {
             try {
                 test.run();
             } catch (RuntimeException | StackOverflowError e) {
                 check.holds(sentence + "no call throws, but one threw " + e, false);
             }
+        }
+        for (int number = first; number <= last; number++) {
+            check.holds("a test names promise " + number, named.contains(number));
         }
         check.end();
     }

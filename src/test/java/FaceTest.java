@@ -9,7 +9,7 @@ import java.util.Set;
 import java.util.TreeSet;
 import java.util.regex.Pattern;
 
-/** The public face is the document's, and the file keeps to those rules of LANGUAGE.md that can be seen in it. */
+/** The public face is the document's; the file keeps to the rules of LANGUAGE.md that can be seen. */
 public final class FaceTest {
     private static final Path SOURCE = Path.of("src/main/java/SelfishWays.java");
     // Each method with how many ints it takes.

@@ -2,12 +2,14 @@
 public final class LaneBoundariesTest extends Boundary {
     public static void main(String[] args) {
         LaneBoundariesTest test = new LaneBoundariesTest();
-        test.hold(test::laneOutside, test::laneFull, test::laneCounts, test::clearTellsHowMany,
+        test.hold(27, 34,
+                test::laneOutside, test::laneFull, test::laneCounts, test::clearTellsHowMany,
                 test::clearLeaves, test::streamLimits, test::streamOutside, test::shareLimits,
                 test::shareOutside, test::flowUnknown, test::flowOutside, test::flowOfNothing,
                 test::flowInLowestTerms, test::flowEvenAtTheEdge, test::flowWiseAtTheEdge,
                 test::flowLeadersByEachShare, test::flowLeadersInTheirOrder,
-                test::flowLedByNothingAndByAll, test::flowLedAtTheEdge, test::flowOfOneLane,
+                test::flowLedByNothingAndByAll, test::flowLedAtTheEdge, test::flowLedOverThree,
+                test::flowOfOneLane,
                 test::flowOfFive, test::levelRefused, test::levelOfLanesWithSome,
                 test::totalRefused, test::totalRoundedDown, test::totalLeastAndMost,
                 test::worseRefused, test::worseRoundedDown, test::lanesFollowChanges);
@@ -306,6 +308,30 @@ public final class LaneBoundariesTest extends Boundary {
         dueFlow(alike, 3, 0, 2, 1);
         dueFlow(alike, 2, 0, 2, 1);
         dueFlow(alike, 2, 1, 2, 1);
+    }
+
+    private void flowLedOverThree() {
+        promise(31, "they fill LANES ... one after the other ... as far as they go");
+        // By wise 5, 4 and 1, which cost 5, 6 and 9: the last one is full by one tenth of 10.
+        int[][] leaders = {{0, 0, 1}, {0, 1, 1}, {0, 4, 1}, {1, 4, 1}};
+        int[] shares = {1, 2, 5, 6};
+        for (int i = 0; i < shares.length; i++) {
+            SelfishWays x = lanes(10, shares[i], 0, 1, 2, 1, 8, 1);
+            for (int lane = 0; lane < 3; lane++) {
+                dueFlow(x, 3, lane, leaders[i][lane], 1);
+            }
+        }
+        promise(31, "no LANE that gets some of it costs more, with all that is on it, than another one");
+        // By two tenths the lanes lie at 0, 3 and 9, and 8 come: the first two cost 5 and a half.
+        SelfishWays open = lanes(10, 2, 0, 1, 2, 1, 8, 1);
+        dueFlow(open, 2, 0, 11, 2);
+        dueFlow(open, 2, 1, 7, 2);
+        dueFlow(open, 2, 2, 1, 1);
+        // By five they lie at 0, 6 and 9: the 5 that come bring the first one to 5.
+        SelfishWays shut = lanes(10, 5, 0, 1, 2, 1, 8, 1);
+        dueFlow(shut, 2, 0, 5, 1);
+        dueFlow(shut, 2, 1, 4, 1);
+        dueFlow(shut, 2, 2, 1, 1);
     }
 
     private void flowOfOneLane() {

@@ -6,13 +6,14 @@ public final class NetBoundariesTest extends Boundary {
 
     public static void main(String[] args) {
         NetBoundariesTest test = new NetBoundariesTest();
-        test.hold(test::aboutOutside, test::aboutWithoutNet, test::aboutNobody,
-                test::aboutAtTheMost, test::aboutNothingToPay, test::aboutResting,
-                test::aboutSocialAndMode, test::aboutGreatestLoad, test::roadUnknown,
-                test::roadOutside, test::roadTellsEach, test::roadWithNobody, test::roadByLoad, test::putLimits,
-                test::putOutside, test::putUnknown, test::putChangesOneNumber,
-                test::putAtEachLimitPays, test::modeLimits, test::modeOutside,
-                test::modeWithoutNet, test::modeTurnsTollsOnAndOff);
+        test.hold(6, 9,
+                test::aboutOutside, test::aboutWithoutNet, test::aboutNobody, test::aboutAtTheMost,
+                test::aboutNothingToPay, test::aboutResting, test::aboutSocialAndMode,
+                test::aboutGreatestLoad, test::roadUnknown, test::roadOutside, test::roadTellsEach,
+                test::roadWithNobody, test::roadByLoad, test::putLimits, test::putOutside,
+                test::putUnknown, test::putChangesOneNumber, test::putAtEachLimitPays,
+                test::modeLimits, test::modeOutside, test::modeWithoutNet,
+                test::modeTurnsTollsOnAndOff);
     }
 
     // ---- promise 6
@@ -40,7 +41,8 @@ public final class NetBoundariesTest extends Boundary {
     }
 
     private void aboutNobody() {
-        promise(6, "3 SOCIAL, 4 POTENTIAL, 5 whether it RESTS (1, 0), 6 how many ALL SETS are, 7 the greatest LOAD");
+        promise(6, "3 SOCIAL, 4 POTENTIAL, 5 whether it RESTS (1, 0), 6 how many ALL SETS are, "
+                + "7 the greatest LOAD");
         SelfishWays x = on(BRAESS);
         int[] nobody = {4, 5, 0, 0, 0, 1, 1, 0};
         dueRow("about() with nobody", x::about, nobody);

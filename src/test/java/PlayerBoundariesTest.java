@@ -5,7 +5,8 @@ public final class PlayerBoundariesTest extends Boundary {
 
     public static void main(String[] args) {
         PlayerBoundariesTest test = new PlayerBoundariesTest();
-        test.hold(test::playerWithoutNet, test::playerUnknown, test::playerFull,
+        test.hold(10, 17,
+                test::playerWithoutNet, test::playerUnknown, test::playerFull,
                 test::playerWithoutWay, test::playerWithTooManyWays, test::playerTakesTheLeast,
                 test::playerAsTheOthersAre, test::dropToNobody, test::dropTakesItsLoad,
                 test::dropAndComeAgain, test::whoUnknown, test::whoOutside, test::whoBestWay,
@@ -109,7 +110,8 @@ public final class PlayerBoundariesTest extends Boundary {
     }
 
     private void playerTakesTheLeast() {
-        promise(10, "takes that of its WAYS by which its PAY is least, as the others are (of several the first)");
+        promise(10, "takes that of its WAYS by which its PAY is least, as the others are "
+                + "(of several the first)");
         dueSet("player(): the least", on("2;0>1:3+0;0>1:2+0;0>1:1+0", 1, 0, 1), 2);
         dueSet("player(): of several the first", on(THREE_ALIKE, 1, 0, 1), 1);
         dueSet("player(): all alike", on("2;0>1:2+0;0>1:1+1;0>1:0+2", 1, 0, 1), 0);

@@ -7,7 +7,8 @@ public final class SetBoundariesTest extends Boundary {
 
     public static void main(String[] args) {
         SetBoundariesTest test = new SetBoundariesTest();
-        test.hold(test::restsOutside, test::allRefusedWithoutPlayers, test::allRefusedAbove500,
+        test.hold(18, 26,
+                test::restsOutside, test::allRefusedWithoutPlayers, test::allRefusedAbove500,
                 test::allToldUpTo500, test::restsOfOneSet, test::restsAllAlike,
                 test::restsAsDearIsRest, test::restsFollowChanges, test::restsTellOnly,
                 test::restUnknown, test::restOrder, test::goUnknown, test::goFirstAndLast,
@@ -227,7 +228,8 @@ public final class SetBoundariesTest extends Boundary {
     }
 
     private void restOrder() {
-        promise(19, "that one is ahead that has the lesser WAY of the least PLAYER for which they are unlike");
+        promise(19, "that one is ahead that has the lesser WAY of the least PLAYER "
+                + "for which they are unlike");
         int[][] ofFour = {{0, 0, 0, 0}, {0, 0, 0, 1}, {0, 0, 1, 0}, {0, 1, 0, 0}, {1, 0, 0, 0}};
         SelfishWays x = four(1, 1, 1, 1);
         for (int place = 0; place < 5; place++) {

@@ -5,7 +5,8 @@ import java.util.Arrays;
 public final class TellingBoundariesTest extends Boundary {
     public static void main(String[] args) {
         TellingBoundariesTest test = new TellingBoundariesTest();
-        test.hold(test::countOutside, test::countFromNothing, test::countAtTheMost,
+        test.hold(35, 36,
+                test::countOutside, test::countFromNothing, test::countAtTheMost,
                 test::countNotWhatIsRefused, test::countComings, test::countTurns,
                 test::digestOfNothing, test::digestOfLetters, test::digestOfANet,
                 test::digestOfAPlayer, test::digestOfTwoPlayers, test::digestOfLanes,
@@ -156,8 +157,9 @@ public final class TellingBoundariesTest extends Boundary {
     }
 
     private void digestOfAPlayer() {
-        promise(36, "of each PLAYER who() for 0 to 6, pay() by each of its WAYS, the ROADS of that which it takes; "
-                + "... rests() for 0 to 5, price() for 0 to 3, reach() for 0 to 2; of each PLAYER lead()");
+        promise(36, "of each PLAYER who() for 0 to 6, pay() by each of its WAYS, "
+                + "the ROADS of that which it takes; ... rests() for 0 to 5, price() for 0 to 3, "
+                + "reach() for 0 to 2; of each PLAYER lead() by each of its WAYS");
         SelfishWays x = on("2;0>1:3+1", 1, 0, 1);
         dueDigest("of one with one way", x,
                 2, 1, 0, 4, 4, 1, 1, 1, 0, 1, 3, 1, 0, 1, 4, 5, 0, 1, 1, 0, 4, 0, 4, 4, 0,
@@ -218,7 +220,8 @@ public final class TellingBoundariesTest extends Boundary {
 
     /** Three players, each on a road of its own of eight alike: 512 sets. */
     private void digestOfManySets() {
-        promise(36, "if rests() would not be refused, rests() for 0 to 5, price() for 0 to 3, reach() for 0 to 2");
+        promise(36, "if rests() would not be refused, rests() for 0 to 5, price() for 0 to 3, "
+                + "reach() for 0 to 2");
         int[] numbers = new int[8 + 8 * 8 + 3 * (7 + 8 + 1) + 3 * 8 + 7];
         int size = 0;
         for (int number : new int[] {2, 8, 0, 3, 3, 1, 512, 1}) {

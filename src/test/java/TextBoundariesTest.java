@@ -5,7 +5,8 @@ public final class TextBoundariesTest extends Boundary {
 
     public static void main(String[] args) {
         TextBoundariesTest test = new TextBoundariesTest();
-        test.hold(test::newHasNoNet, test::newHasNoLanes, test::newHasModeZero,
+        test.hold(1, 5,
+                test::newHasNoNet, test::newHasNoLanes, test::newHasModeZero,
                 test::newHasAnEmptyPage, test::objectsAreApart, test::letterTellsHowMany,
                 test::letterOutside, test::letterFull, test::letterOutsideAheadOfFull,
                 test::letterOfLastCall, test::blankTellsHowMany, test::blankLeavesTheNet,
@@ -204,7 +205,8 @@ public final class TextBoundariesTest extends Boundary {
     }
 
     private void faultAtA() {
-        promise(4, "the first letter of THE PAGE that no NET has there ... A (without a 0 ahead) ... A (0 to 20)");
+        promise(4, "the first letter of THE PAGE that no NET has there ... "
+                + "A (without a 0 ahead) ... A (0 to 20)");
         dueNext("2;0>1:", DIGITS);
         dueNext("2;0>1:0", "+");
         dueNext("2;0>1:1", "+" + DIGITS);
