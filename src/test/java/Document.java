@@ -4,6 +4,9 @@ import java.nio.file.Files;
 import java.nio.file.Path;
 import java.util.HashMap;
 import java.util.Map;
+import java.util.Set;
+import java.util.TreeMap;
+import java.util.TreeSet;
 import java.util.regex.Matcher;
 import java.util.regex.Pattern;
 
@@ -11,6 +14,8 @@ import java.util.regex.Pattern;
 final class Document {
     private static final Path FILE = Path.of("../shared/DOC.md");
     private static final Pattern TITLE = Pattern.compile("Promise (\\d+): ");
+    private static final Pattern METHOD = Pattern.compile("public (\\w+ \\w+\\([^)]*\\));");
+    private static final Pattern CONSTANTS = Pattern.compile("public static final int ([^;]*);");
 
     private final Map<Integer, String> promises = new HashMap<>();
     private final StringBuilder shared = new StringBuilder();
@@ -44,5 +49,28 @@ final class Document {
             }
         }
         return promises.containsKey(promise);
+    }
+
+    /** The methods of the public face, such as "int pay(int player, int way)". */
+    Set<String> methods() {
+        Set<String> found = new TreeSet<>();
+        Matcher method = METHOD.matcher(shared);
+        while (method.find()) {
+            found.add(method.group(1));
+        }
+        return found;
+    }
+
+    /** The constants of the public face with what they are. */
+    Map<String, Integer> constants() {
+        Map<String, Integer> found = new TreeMap<>();
+        Matcher row = CONSTANTS.matcher(shared);
+        while (row.find()) {
+            for (String one : row.group(1).split(", ")) {
+                String[] sides = one.split(" = ");
+                found.put(sides[0], Integer.valueOf(sides[1]));
+            }
+        }
+        return found;
     }
 }

@@ -5,20 +5,16 @@ import java.lang.reflect.Modifier;
 import java.nio.file.Files;
 import java.nio.file.Path;
 import java.util.Arrays;
+import java.util.Map;
 import java.util.Set;
+import java.util.TreeMap;
 import java.util.TreeSet;
 import java.util.regex.Pattern;
+import java.util.stream.Collectors;
 
 /** The public face is the document's; the file keeps to the rules of LANGUAGE.md that can be seen. */
 public final class FaceTest {
     private static final Path SOURCE = Path.of("src/main/java/SelfishWays.java");
-    // Each method with how many ints it takes.
-    private static final String[] METHODS = {"letter1", "blank0", "fault0", "net0", "about1", "road2",
-        "put3", "mode1", "player2", "drop0", "who2", "way3", "pay2", "set2", "turn0", "run1", "rests1",
-        "rest2", "go1", "best0", "price1", "reach1", "lead2", "leads1", "follow1", "lane2", "clear0",
-        "stream1", "share1", "flow3", "level1", "total1", "worse1", "count1", "digest0"};
-    private static final String[] CONSTANTS = {"NONE=-1", "UNKNOWN=-101", "OUTSIDE=-102", "STATE=-103",
-        "FULL=-104"};
     private static final String[] NEVER = {"\\bthrow\\b", "\\btry\\b", "\\bcatch\\b", "\\bsynchronized\\b",
         "\\bassert\\b", "->", "::", "\\bpackage\\b", "Exact\\b", "\\bRandom\\b", "\\bSystem\\.(?!arraycopy)",
         "\\bstatic \\{", "\\bprotected\\b", "\\bfloat\\b", "\\bdouble\\b"};
@@ -38,34 +34,47 @@ public final class FaceTest {
         check.holds("one constructor, public, of nothing", face.getDeclaredConstructors().length == 1
                 && face.getConstructors().length == 1
                 && face.getConstructors()[0].getParameterCount() == 0);
+        methods(check, face);
+        constants(check, face);
+    }
+
+    private static void methods(Check check, Class<?> face) {
+        Set<String> want = new TreeSet<>();
+        for (String method : new Document().methods()) {
+            // Names of arguments can't be seen in a class.
+            want.add(method.replaceAll("int \\w+(?=[,)])", "int"));
+        }
         Set<String> found = new TreeSet<>();
         Set<String> names = new TreeSet<>();
         for (Method m : face.getDeclaredMethods()) {
             if (Modifier.isPublic(m.getModifiers())) {
-                found.add(m.getName() + m.getParameterCount());
+                found.add(Arrays.stream(m.getParameterTypes()).map(Class::getName)
+                        .collect(Collectors.joining(", ", m.getReturnType() + " " + m.getName() + "(", ")")));
                 names.add(m.getName());
-                check.holds(m + " answers as told",
-                        m.getReturnType() == (m.getName().equals("digest") ? long.class : int.class));
-                check.holds(m + " takes ints",
-                        Arrays.stream(m.getParameterTypes()).allMatch(t -> t == int.class));
                 check.holds(m + " is an object's", !Modifier.isStatic(m.getModifiers()));
             }
         }
-        check.holds("the methods are " + found, found.equals(new TreeSet<>(Arrays.asList(METHODS))));
+        check.holds("35 methods are told", want.size() == 35);
+        check.holds("the methods are " + found + ", due are " + want, found.equals(want));
         for (Method m : face.getDeclaredMethods()) {
             check.holds(m + " is private with a name of its own", Modifier.isPublic(m.getModifiers())
                     || Modifier.isPrivate(m.getModifiers()) && !names.contains(m.getName()));
         }
-        Set<String> constants = new TreeSet<>();
+    }
+
+    private static void constants(Check check, Class<?> face) throws ReflectiveOperationException {
+        Map<String, Integer> want = new Document().constants();
+        Map<String, Object> found = new TreeMap<>();
         for (Field f : face.getDeclaredFields()) {
             if (Modifier.isPublic(f.getModifiers())) {
-                constants.add(f.getName() + "=" + f.get(null));
+                found.put(f.getName(), f.get(null));
+                check.holds(f + " is a constant", Modifier.isFinal(f.getModifiers()));
             } else {
                 check.holds(f + " is private", Modifier.isPrivate(f.getModifiers()));
             }
         }
-        check.holds("the constants are " + constants,
-                constants.equals(new TreeSet<>(Arrays.asList(CONSTANTS))));
+        check.holds("five constants are told", want.size() == 5);
+        check.holds("the constants are " + found + ", due are " + want, found.equals(want));
     }
 
     private static void classesInside(Check check) {
